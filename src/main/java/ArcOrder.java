@@ -18,7 +18,7 @@ public final class ArcOrder {
 
     private final Net net = new Net();
     /** Holds what a text tells until it is known to be right, and how things were ahead of adds() and sorts(). */
-    private final Net spareNet = new Net();
+    private final Net aside = new Net();
     private final Text text = new Text();
     private final ArcList list = new ArcList();
     private final Past past = new Past();
@@ -51,11 +51,11 @@ public final class ArcOrder {
     }
 
     public int store() {
-        int entries = text.readInto(spareNet);
+        int entries = text.readInto(aside);
         if (entries < 0) {
             return entries;
         }
-        net.copyOf(spareNet);
+        net.copyOf(aside);
         text.length = 0;
         list.size = 0;
         past.size = 0;
@@ -144,15 +144,15 @@ public final class ArcOrder {
         if (list.size == 0 || list.isAnyIn(net)) {
             return STATE;
         }
-        spareNet.copyOf(net);
+        aside.copyOf(net);
         boolean allPut = putListed();
         list.size = 0;
         if (!allPut) {
-            net.copyOf(spareNet);
+            net.copyOf(aside);
             return RING;
         }
-        past.push(spareNet);
-        return net.placesUnlike(spareNet);
+        past.push(aside);
+        return net.placesUnlike(aside);
     }
 
     public int cuts(int u, int v) {
@@ -169,9 +169,9 @@ public final class ArcOrder {
 
     public int sorts() {
         past.push(net);
-        spareNet.copyOf(net);
+        aside.copyOf(net);
         net.sort();
-        return net.placesUnlike(spareNet);
+        return net.placesUnlike(aside);
     }
 
     public int undo() {
@@ -465,7 +465,7 @@ public final class ArcOrder {
         }
 
         boolean closesRing(int u, int v) {
-            return holdsBit(after(u, v), u);
+            return place[u] > place[v] && holdsBit(sweepOn(v, place[u]), u);
         }
 
         int movedBy(int u, int v) {
@@ -851,20 +851,19 @@ public final class ArcOrder {
             Arrays.fill(movers, 0);
             for (int u = 0; u < net.items; u++) {
                 for (int v = 0; v < net.items; v++) {
-                    if (net.canTake(u, v) && fits(net.movedBy(u, v))) {
-                        take(u, v, net.movedBy(u, v));
+                    if (net.canTake(u, v)) {
+                        takeIfFits(codeOf(u, v), net.movedBy(u, v));
                     }
                 }
             }
         }
 
-        private boolean fits(int moved) {
-            return (mustMove & ~moved) == 0 && (mustStay & moved) == 0;
-        }
-
-        private void take(int u, int v, int moved) {
+        private void takeIfFits(int code, int moved) {
+            if ((mustMove & ~moved) != 0 || (mustStay & moved) != 0) {
+                return;
+            }
             if (first == NONE) {
-                first = codeOf(u, v);
+                first = code;
             }
             fitting++;
             for (int i = 0; i < MOST_ITEMS; i++) {
