@@ -3,7 +3,8 @@ import java.util.Random;
 /** Long rows of calls, the same ones each time, on ArcOrder and on Model: every answer must be alike. */
 public final class ModelTest {
     private static final Due DUE = new Due("ModelTest");
-    private static final int CALLS = 512;
+    /** The document promises 512 calls; a text, the longest step, makes 122. */
+    private static final int LAST_STEP = 512 - 122;
 
     private final Random random;
     private final ArcOrder x = new ArcOrder();
@@ -11,6 +12,7 @@ public final class ModelTest {
     private final String run;
     /** Some runs put many arcs, others few. */
     private final boolean isDense;
+    private int calls;
 
     private ModelTest(int seed) {
         random = new Random(seed);
@@ -19,7 +21,7 @@ public final class ModelTest {
     }
 
     public static void main(String[] args) {
-        int runs = args.length > 0 ? Integer.parseInt(args[0]) : 150;
+        int runs = args.length > 0 ? Integer.parseInt(args[0]) : 500;
         for (int seed = 1; seed <= runs && !DUE.isWrong(); seed++) {
             new ModelTest(seed).go();
         }
@@ -27,9 +29,15 @@ public final class ModelTest {
     }
 
     private void go() {
-        int calls = 0;
-        while (calls < CALLS && !DUE.isWrong()) {
-            calls += random.nextInt(100) < 6 ? tell(CALLS - calls) : one();
+        if (random.nextInt(4) > 0) {
+            tell();
+        }
+        while (calls <= LAST_STEP && !DUE.isWrong()) {
+            if (random.nextInt(100) < 4) {
+                tell();
+            } else {
+                change();
+            }
         }
     }
 
@@ -43,17 +51,13 @@ public final class ModelTest {
         return random.nextInt(30) == 0 ? random.nextInt(2) * (bound + 1) - 1 : random.nextInt(bound);
     }
 
-    private int tell(int most) {
+    private void tell() {
         String text = text();
-        if (text.length() + 2 > most) {
-            return most;
-        }
         is("clear()", x.clear(), m.clear());
         for (int i = 0; i < text.length(); i++) {
             is("type()", x.type(text.charAt(i)), m.type(text.charAt(i)));
         }
         is("store() of '" + text + "'", x.store(), m.store());
-        return text.length() + 2;
     }
 
     private String text() {
@@ -93,7 +97,7 @@ public final class ModelTest {
         return " ".repeat(least + (random.nextInt(12) == 0 ? 1 : 0));
     }
 
-    private int one() {
+    private void change() {
         int u = u();
         int v = u();
         switch (random.nextInt(26)) {
@@ -120,10 +124,9 @@ public final class ModelTest {
             default:
                 ask(u, v);
         }
-        if (random.nextInt(8) == 0) {
+        if (random.nextInt(20) == 0) {
             whole();
         }
-        return 1;
     }
 
     private void ask(int u, int v) {
@@ -209,10 +212,12 @@ public final class ModelTest {
     }
 
     private void is(String call, long got, long want) {
+        calls++;
         DUE.is(run + call, got, want);
     }
 
     private void is(String call, String got, String want) {
+        calls += 2 * m.state.items + 3;
         DUE.is(run + call, got, want);
     }
 }
