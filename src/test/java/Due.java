@@ -3,25 +3,36 @@ final class Due {
     private final String name;
     private int asked;
     private int wrong;
+    private int sentences;
+    /** What the document says, in its own words, of the answers that are compared now. */
+    private String sentence = "";
 
     Due(String name) {
         this.name = name;
     }
 
+    void says(String words) {
+        sentences++;
+        sentence = " [" + words + "]";
+    }
+
     void is(String call, long got, long want) {
         asked++;
         if (got != want) {
-            wrong++;
-            System.out.println(name + ": " + call + " answered " + got + ", due is " + want);
+            tell(call + " answered " + got + ", due is " + want);
         }
     }
 
     void is(String call, String got, String want) {
         asked++;
         if (!got.equals(want)) {
-            wrong++;
-            System.out.println(name + ": " + call + " gave " + got + ", due is " + want);
+            tell(call + " gave " + got + ", due is " + want);
         }
+    }
+
+    private void tell(String what) {
+        wrong++;
+        System.out.println(name + sentence + ": " + what);
     }
 
     boolean isWrong() {
@@ -29,7 +40,8 @@ final class Due {
     }
 
     void end() {
-        System.out.println(name + ": " + asked + " answers, " + wrong + " not as due");
+        String of = sentences > 0 ? " to " + sentences + " sentences" : "";
+        System.out.println(name + ": " + asked + " answers" + of + ", " + wrong + " not as due");
         if (wrong > 0) {
             System.exit(1);
         }

@@ -98,6 +98,25 @@ public final class FaceTest {
                 DUE.is("a sign above 127", sign, 0);
             }
         }
+        methodsAreShort(source.split("\n"));
+    }
+
+    /** A method begins with a line that ends in ") {" and is no statement, and ends with a brace as far to the right. */
+    private static void methodsAreShort(String[] lines) {
+        Pattern head = Pattern.compile("( {4}| {8})(?!if |for |while |switch |do |else )\\w.*\\) \\{");
+        int methods = 0;
+        for (int i = 0; i < lines.length; i++) {
+            Matcher matcher = head.matcher(lines[i]);
+            if (matcher.matches()) {
+                int end = i;
+                while (end < lines.length - 1 && !lines[end].equals(matcher.group(1) + "}")) {
+                    end++;
+                }
+                methods++;
+                DUE.is(lines[i].trim() + " at most 60 lines", end - i + 1 <= 60 ? 1 : 0, 1);
+            }
+        }
+        DUE.is("methods are found", methods >= FACE.length ? 1 : 0, 1);
     }
 
     /** No call may throw, whatever the numbers are. */
