@@ -380,8 +380,17 @@ public final class TextEdgeTest {
         DUE.is("nothing of what was cleared is read", x.store(), 1);
         DUE.is("count(0)", x.count(0), 5);
         x.puts(1, 0);
+        x.puts(0, 1);
+        x.lists(2, 0);
+        x.sees(1, 1);
+        x.keep(0);
+        String ahead = Probe.light(x);
+        x.type('x');
         x.clear();
-        DUE.is("arcs stay", x.now(0), 1);
+        DUE.is("all else stays", Probe.light(x), ahead);
+        DUE.is("what was seen stays: (2, 1), (3, 1), (4, 1) move 1", x.unseen(0), 3);
+        DUE.is("the ring stays", Due.ring(x), "1 0");
+        DUE.is("the image stays", x.back(0), 1);
     }
 
     private static void storeOfNoText() {
