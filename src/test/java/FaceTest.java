@@ -114,9 +114,21 @@ public final class FaceTest {
                 }
                 methods++;
                 DUE.is(lines[i].trim() + " at most 60 lines", end - i + 1 <= 60 ? 1 : 0, 1);
+                DUE.is(lines[i].trim() + " makes no object", makesObject(lines, i, end) ? 1 : 0, 0);
             }
         }
         DUE.is("methods are found", methods >= FACE.length ? 1 : 0, 1);
+    }
+
+    /** All calls live in one room: only constructors, whose heads have no type and no second word, may fill it. */
+    private static boolean makesObject(String[] lines, int head, int end) {
+        boolean isConstructor = lines[head].trim().matches("(public )?\\w+\\(.*");
+        for (int i = head; i <= end && !isConstructor; i++) {
+            if (lines[i].replaceAll("//.*|/?\\*.*", "").matches(".*(\\bnew\\b|clone\\(|copyOf(Range)?\\(\\w+, ).*")) {
+                return true;
+            }
+        }
+        return false;
     }
 
     /** No call may throw, whatever the numbers are. */
